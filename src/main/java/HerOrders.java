@@ -1182,17 +1182,28 @@ public final class HerOrders {
 
         private void seekLongest() {
             bestLength = 0;
-            lengthen(0);
+            lengthen(0, freeTurns(0));
         }
 
-        private void lengthen(int depth) {
-            int most = Math.min(LONGEST_MOST, ORDER_MOST - house.size);
-            if (depth >= most) return;
+        /** How many can speak in turn, whatever the WORDS: no row is longer, so none needs to be tried. */
+        private int freeTurns(int depth) {
+            int most = depth;
+            for (int i = 0; i < house.speakers && depth < LONGEST_MOST && most < LONGEST_MOST; i++) {
+                if (!house.isFree(i)) continue;
+                house.push(i, 0);
+                most = Math.max(most, freeTurns(depth + 1));
+                house.pop();
+            }
+            return most;
+        }
+
+        private void lengthen(int depth, int most) {
+            if (depth >= most || depth >= LONGEST_MOST) return;
             for (int word = 0; word < WORD_COUNT && bestLength < most; word++) {
                 words[depth] = word;
                 if (!hasWay(0, depth + 1)) continue;
                 if (depth + 1 > bestLength) keepBest(depth + 1);
-                lengthen(depth + 1);
+                lengthen(depth + 1, most);
             }
         }
 
