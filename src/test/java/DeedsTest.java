@@ -190,9 +190,23 @@ public final class DeedsTest {
         Desk.told(x, "ROOM ahead of these", x.speaker(1, 2), 2);
         Desk.due("on(1) again", x.on(1), 3);
         Desk.due("as kept", x.digest(), kept);
+        x.undo(0);
+        x.walk(0, 4);
+        x.say(1, 2);
+        x.keep(0);
+        x.say(1, 2);
+        x.hour();
+        Desk.due("on(1) when all was done otherwise", x.on(1), 3);
+        x.undo(3);
+        Desk.told(x, "the ROOM as kept", x.speaker(1, 2), 1);
+        Desk.due("the WORD as kept", x.said(0), 1);
+        Desk.due("who said it as kept", x.asked(), 0);
+        Desk.due("on(0), another place", x.on(0), 2);
+        Desk.due("the WORD kept there", x.said(0), 2);
+        Desk.due("the HOUR kept there", x.count(1), 0);
         Desk.refused(x, "on(3)", () -> x.on(3), BAD);
         Desk.refused(x, "on(-1)", () -> x.on(-1), BAD);
-        Desk.found(x, "on(0)", () -> x.on(0), NOTHING);
+        Desk.found(x, "on(2)", () -> x.on(2), NOTHING);
     }
 
     private static void who() {

@@ -59,6 +59,9 @@ public final class KindsFourthTest {
             Desk.found(x, "kinds", () -> x.kinds(0, 0), UNLIKE);
             Desk.found(x, "test", () -> x.test(0, 0), UNLIKE);
         }
+        Desk.lay(x, 0, 0, 0, 1, 9, 9, 9);
+        Desk.lay(x, 0, 0, 0, 1);
+        Desk.due("kinds, a shorter ROW where a longer one was", x.kinds(0, 0), V + P + S + N + C);
         x.row(0, 39);
         Desk.due("kinds of 13 triples", x.kinds(0, 0), M);
         HerOrders y = new HerOrders();
@@ -77,6 +80,8 @@ public final class KindsFourthTest {
         testBy(x, 0, 4);
         testBy(x, 0, 2, NONE, 0, 1, 5, 0, 1, 2, 2, 0);
         testBy(x, 10, 1, NONE, 0, 0);
+        HerOrders most = Desk.houseOf("v6212");
+        testBy(most, 60, 1, 0, 0, 1);
         HerOrders odd = Desk.houseOf("v0212");
         odd.hour();
         testBy(odd, 1, 3);
@@ -102,6 +107,13 @@ public final class KindsFourthTest {
         Desk.due("asked()", x.asked(), 2 + 16 + 32);
         Desk.lay(x, 0, 4, 4);
         Desk.due("he says not two in a row", x.fourth(0, 1), NONE);
+        HerOrders z = Desk.houseOf("v0119 m0101 n0141");
+        z.walk(1, 5);
+        Desk.write(z, 1, "v0119");
+        z.house(1);
+        Desk.lay(z, 0, 4, 0);
+        Desk.due("fourth, where a MAID was, a VOICE begins", z.fourth(0, 1), 1);
+        Desk.due("asked()", z.asked(), 16);
         HerOrders y = Desk.houseOf("v0719");
         Desk.lay(y, 0, 2, 1);
         Desk.due("fourth, of like few the least", y.fourth(0, 1), 1);

@@ -105,6 +105,9 @@ public final class OrdersTest {
         Desk.found(x, "far of no WORD", () -> x.far(0), UNLIKE);
         Desk.lay(x, 0, -1);
         Desk.found(x, "ways of -1", () -> x.ways(0), UNLIKE);
+        Desk.lay(x, 0, 0, 9);
+        Desk.lay(x, 0, 0);
+        Desk.shared(x, "ways of a shorter ROW where a longer one was", x.ways(0), 3, 1);
     }
 
     private static void dumb() {
@@ -214,5 +217,12 @@ public final class OrdersTest {
         Desk.found(x, "heard of no ROOM", () -> x.heard(0), UNLIKE);
         Desk.lay(x, 0, 0, -9);
         Desk.found(x, "sure of no ROOM", () -> x.sure(0), UNLIKE);
+        Desk.lay(x, 1, 0, 6);
+        Desk.found(x, "heard of no ROOM, a new ROW", () -> x.heard(1), UNLIKE);
+        Desk.lay(x, 2, 0, 1, 0, 7);
+        Desk.found(x, "heard of no ROOM behind a ROOM", () -> x.heard(2), UNLIKE);
+        Desk.lay(x, 0, 0, 1, 9, 9);
+        Desk.lay(x, 0, 0, 1);
+        Desk.shared(x, "heard, a shorter ROW where a longer one was", x.heard(0), 1, 1);
     }
 }

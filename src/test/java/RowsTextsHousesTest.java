@@ -200,6 +200,16 @@ public final class RowsTextsHousesTest {
         Desk.due("fault of a cut byte", x.fault(0), NONE);
         x.put(0, 0, -118);
         Desk.due("fault of a byte below 0", x.fault(0), 0);
+        Desk.write(x, 0, "v0001p6359");
+        for (int n = 6; n < 10; n++) {
+            Desk.write(x, 0, "v0001p6359".substring(0, n));
+            Desk.due("fault of a shorter TEXT where a longer one was", x.fault(0), n);
+            Desk.write(x, 0, "v0001p6359");
+        }
+        Desk.write(x, 1, " ".repeat(58) + "v0");
+        Desk.due("fault of the longest TEXT", x.fault(1), 60);
+        Desk.write(x, 1, " ".repeat(55) + "v6359");
+        Desk.due("the longest TEXT", x.fault(1), NONE);
     }
 
     private static void house() {
