@@ -172,6 +172,13 @@ public final class DeedsTest {
         Desk.refused(x, "keep(-1)", () -> x.keep(-1), BAD);
         HerOrders y = new HerOrders();
         Desk.refused(y, "keep of no house", () -> y.keep(1), STATE);
+        HerOrders z = Desk.houseOf("v6312");
+        for (int k = 0; k < 40; k++) z.hour();
+        Desk.due("keep of 40 DEEDS", z.keep(1), 40);
+        z.undo(0);
+        Desk.due("on to 40 DEEDS", z.on(1), 40);
+        Desk.due("the HOUR of 40 DEEDS", z.count(1), 40);
+        Desk.refused(z, "a 41st DEED of a kept HOUSE", z::hour, FULL);
     }
 
     private static void on() {
