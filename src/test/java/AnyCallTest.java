@@ -5,6 +5,8 @@ public final class AnyCallTest {
     private static final int[] EDGES = {Integer.MIN_VALUE, Integer.MIN_VALUE + 1, -1001, -10, -9, -8, -2, -1, 6, 7, 8,
         9, 10, 12, 13, 20, 21, 39, 40, 41, 60, 61, 63, 64, 511, 512, Integer.MAX_VALUE - 1, Integer.MAX_VALUE};
     private static final int CALLS = 41;
+    /** With what furnish() and the comparisons call, some 500 calls of one object: more are not promised. */
+    private static final int STEPS = 100;
 
     private final Random chance;
     private final HerOrders x = new HerOrders();
@@ -14,7 +16,7 @@ public final class AnyCallTest {
     }
 
     public static void main(String[] args) {
-        for (int seed = 0; seed < 300; seed++) {
+        for (int seed = 0; seed < 1500; seed++) {
             long first = new AnyCallTest(seed).run();
             long second = new AnyCallTest(seed).run();
             Desk.due("a run again, seed " + seed, second, first);
@@ -28,8 +30,8 @@ public final class AnyCallTest {
 
     private long run() {
         long h = 0;
-        for (int k = 0; k < 512; k++) {
-            if (k % 64 == 5) furnish();
+        for (int k = 0; k < STEPS; k++) {
+            if (k == 5) furnish();
             int which = chance.nextInt(CALLS);
             long before = x.digest();
             long answer = which < 20 ? early(which) : late(which);

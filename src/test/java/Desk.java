@@ -4,15 +4,21 @@ import java.util.function.IntSupplier;
 final class Desk {
     private static int wrong = 0;
     private static int compared = 0;
+    private static String sentence = "";
 
     private Desk() {
+    }
+
+    /** The document's sentence that the next answers are compared by, told with one that is not as due. */
+    static void sentence(String words) {
+        sentence = "'" + words + "' ";
     }
 
     static void due(String call, long got, long want) {
         compared++;
         if (got == want) return;
         wrong++;
-        System.out.println(call + " answered " + got + ", due is " + want);
+        System.out.println(sentence + call + " answered " + got + ", due is " + want);
     }
 
     /** A call that tells by asked(): it answers 1, and tells what is due. */
@@ -78,6 +84,20 @@ final class Desk {
             wrong++;
             System.out.println("no house by " + text);
         }
+        return x;
+    }
+
+    /** A house whose ORDER has these WORDS, said by the SPEAKERS 0, 1, 0, 1 .. */
+    static HerOrders houseWith(String text, int... order) {
+        HerOrders x = houseOf(text);
+        for (int k = 0; k < order.length; k++) due("houseWith: say", x.say(k % 2, order[k]), k + 1);
+        return x;
+    }
+
+    /** A house in which so many HOURS have passed. */
+    static HerOrders houseAfter(String text, int hours) {
+        HerOrders x = houseOf(text);
+        for (int k = 1; k <= hours; k++) due("houseAfter: hour", x.hour(), k);
         return x;
     }
 

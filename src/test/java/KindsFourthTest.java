@@ -55,18 +55,24 @@ public final class KindsFourthTest {
         Desk.found(x, "test of 4", () -> x.test(0, 0), SIZE);
         int[][] unlike = {{6, 0, 0}, {-1, 0, 0}, {0, 6, 0}, {0, NONE, 0}, {0, 0, 2}, {0, 0, -1}, {0, 0, 0, 0, 0, 9}};
         for (int[] triple : unlike) {
-            Desk.lay(x, 0, triple);
-            Desk.found(x, "kinds", () -> x.kinds(0, 0), UNLIKE);
-            Desk.found(x, "test", () -> x.test(0, 0), UNLIKE);
+            HerOrders z = Desk.houseOf("v0101");
+            Desk.lay(z, 0, triple);
+            Desk.found(z, "kinds", () -> z.kinds(0, 0), UNLIKE);
+            Desk.found(z, "test", () -> z.test(0, 0), UNLIKE);
         }
+        shorterAndLongestTriples();
+        HerOrders y = new HerOrders();
+        Desk.refused(y, "kinds of no house", () -> y.kinds(0, 0), BAD);
+        Desk.refused(y, "test of no house", () -> y.test(0, 0), BAD);
+    }
+
+    private static void shorterAndLongestTriples() {
+        HerOrders x = Desk.houseOf("v0101");
         Desk.lay(x, 0, 0, 0, 1, 9, 9, 9);
         Desk.lay(x, 0, 0, 0, 1);
         Desk.due("kinds, a shorter ROW where a longer one was", x.kinds(0, 0), V + P + S + N + C);
         x.row(0, 39);
         Desk.due("kinds of 13 triples", x.kinds(0, 0), M);
-        HerOrders y = new HerOrders();
-        Desk.refused(y, "kinds of no house", () -> y.kinds(0, 0), BAD);
-        Desk.refused(y, "test of no house", () -> y.test(0, 0), BAD);
     }
 
     private static void testBy(HerOrders x, int want, int part, int... triples) {
