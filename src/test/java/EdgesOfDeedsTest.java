@@ -279,6 +279,11 @@ public final class EdgesOfDeedsTest {
         Desk.due("said(2)", x.said(2), 5);
         Desk.due("count(4)", x.count(4), 0);
         Desk.due("it goes on", x.say(1, 0), 4);
+        HerOrders six = Desk.houseWith("v6311 v6312 v6313 v6314 v6315 v6316", 0, 0);
+        six.say(5, 0);
+        Desk.due("BREATH of six, three spent", six.count(5), 18);
+        six.hour();
+        Desk.due("BREATH of six", six.count(5), 21);
     }
 
     private static void walkRefused() {

@@ -17,6 +17,7 @@ public final class EdgesOfKindsTest {
         kindsByTheHour();
         kindsAside();
         kindsOfNone();
+        shorterRows();
         testOfNoKind();
         testOfOneKind();
         testIsTheFirst();
@@ -183,6 +184,15 @@ public final class EdgesOfKindsTest {
         Desk.due("asked()", x.asked(), part);
     }
 
+    private static void shorterRows() {
+        Desk.sentence("A ROW is there with n ints (those behind are none of it)");
+        HerOrders x = Desk.houseOf("v0119");
+        Desk.lay(x, 0, 0, 0, 1, 9, 9, 9);
+        kindsBy(x, V + P + S + N + C, 0, 0, 1);
+        Desk.lay(x, 0, 0, 0, 0, 0, 0, 9);
+        Desk.found(x, "the second triple", () -> x.kinds(0, 0), UNLIKE);
+    }
+
     private static void testOfNoKind() {
         Desk.sentence("NONE: there is no KIND");
         HerOrders x = Desk.houseOf("v0119");
@@ -299,6 +309,11 @@ public final class EdgesOfKindsTest {
         HerOrders y = Desk.houseAfter("s6319 m6319", 1);
         Desk.lay(y, 0, 2, 1);
         Desk.due("a VOICE begins in HOUR 1", y.fourth(0, 1), 1);
+        Desk.due("asked()", y.asked(), 4);
+        Desk.write(y, 1, "v0119");
+        Desk.due("a house of one", y.house(1), 1);
+        Desk.lay(y, 0, 2, 0);
+        Desk.due("a VOICE, where a MAID was", y.fourth(0, 1), 1);
         Desk.due("asked()", y.asked(), 4);
     }
 

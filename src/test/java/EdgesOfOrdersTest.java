@@ -128,6 +128,9 @@ public final class EdgesOfOrdersTest {
         HerOrders x = Desk.houseOf("v6319 v6319");
         Desk.lay(x, 0, 0, 5, 0, 5, 0);
         Desk.shared(x, "ways of 0 and 5", x.ways(0), 2, 1);
+        Desk.lay(x, 0, 0, 9);
+        Desk.lay(x, 0, 0);
+        Desk.shared(x, "a shorter ROW where a longer one was", x.ways(0), 2, 1);
     }
 
     private static void waysOfNone() {
@@ -435,6 +438,9 @@ public final class EdgesOfOrdersTest {
         Desk.lay(x, 0, 0, 0);
         Desk.shared(x, "0 in 0", x.heard(0), 1, 1);
         Desk.due("asked()", x.asked(), 1);
+        Desk.lay(x, 0, 0, 0, 9, 9);
+        Desk.lay(x, 0, 0, 0);
+        Desk.shared(x, "a shorter ROW where a longer one was", x.heard(0), 1, 1);
     }
 
     private static void heardNothing() {
