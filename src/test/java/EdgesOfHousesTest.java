@@ -24,6 +24,8 @@ public final class EdgesOfHousesTest {
         houseAnew();
         houseRefused();
         houseStaysWhenItsTextGoes();
+        houseOfFewerBehindOneOfMore();
+        chancesOfFewerBehindMore();
         speakerNumbers();
         speakerFacts();
         markKinds();
@@ -312,6 +314,56 @@ public final class EdgesOfHousesTest {
         x.walk(0, 1);
         x.undo(0);
         Desk.told(x, "ROOM", x.speaker(0, 2), 4);
+    }
+
+    /** A HOUSE of one, where one of six was, who could say more. */
+    private static HerOrders fewerBehindMore() {
+        HerOrders x = Desk.houseOf("v6319 p6319 c6319 p6319 n6319 s6319");
+        x.say(0, 3);
+        x.say(1, 4);
+        x.walk(2, 2);
+        Desk.write(x, 0, "v0112");
+        Desk.due("house of one", x.house(0), 1);
+        return x;
+    }
+
+    private static void houseOfFewerBehindOneOfMore() {
+        Desk.sentence("A HOUSE by a TEXT (anew ..)");
+        HerOrders x = fewerBehindMore();
+        Desk.due("digest()", x.digest(), Desk.houseOf("v0112").digest());
+        int[] due = {1, 0, 0, 0, 0, 2, 1, 0, 0, 1, 0};
+        for (int what = 0; what < due.length; what++) Desk.due("count(" + what + ")", x.count(what), due[what]);
+        for (int word = 0; word <= 5; word++) Desk.due("who(" + word + ")", x.who(word), word == 0 ? 1 : 0);
+        Desk.due("dumb()", x.dumb(), 1);
+        Desk.due("asked()", x.asked(), 1);
+        Desk.due("longest(0)", x.longest(0), 1);
+        Desk.rowIs(x, "longest", 0, 0);
+        Desk.due("struck(1)", x.struck(1), NONE);
+        Desk.due("struck(2)", x.struck(2), 0);
+        x.say(0, 0);
+        Desk.due("struck(1) behind a WORD", x.struck(1), 1);
+        Desk.due("count(6) behind a WORD", x.count(6), 0);
+        Desk.due("dumb() behind a WORD", x.dumb(), 1);
+        Desk.due("asked()", x.asked(), 0);
+        Desk.due("longest(0) behind a WORD", x.longest(0), 0);
+    }
+
+    private static void chancesOfFewerBehindMore() {
+        Desk.sentence("A HOUSE by a TEXT (anew ..)");
+        HerOrders x = fewerBehindMore();
+        Desk.lay(x, 1, 0);
+        Desk.shared(x, "ways", x.ways(1), 1, 1);
+        Desk.due("asked()", x.asked(), 1);
+        Desk.shared(x, "odds", x.odds(1, 5), 7, 12);
+        Desk.shared(x, "mid", x.mid(1, 5), 7, 12);
+        Desk.lay(x, 2, 0, 1);
+        Desk.shared(x, "heard", x.heard(2), 1, 1);
+        Desk.due("sure", x.sure(2), 1);
+        Desk.due("asked()", x.asked(), 0);
+        Desk.lay(x, 1, 0, 0);
+        Desk.shared(x, "ways of two", x.ways(1), 0, 1);
+        Desk.due("fourth", x.fourth(1, 1), 1);
+        Desk.due("undo(0)", x.undo(0), 0);
     }
 
     private static void speakerNumbers() {

@@ -421,6 +421,7 @@ public final class EdgesOfKindsTest {
         struckIs(Desk.houseOf("n6319 m6319"), 1, 1, 1);
         struckIs(Desk.houseAfter("s6319 s6319", 1), 1, 1, 1);
         struckIs(Desk.houseWith("v6319", 0), 1, 1, 1);
+        struckIs(Desk.houseOf("n6319 m6319 v0019 p0019 c0019 n0119"), 1, 1, 1);
     }
 
     private static void struckInTwo() {

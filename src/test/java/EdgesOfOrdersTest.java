@@ -324,6 +324,7 @@ public final class EdgesOfOrdersTest {
         dumbIs(Desk.houseOf("v6319 v5919 v5919"), 2, 14);
         dumbIs(Desk.houseOf("v6311 v6311"), 3, 0);
         dumbIs(Desk.houseOf("v6311 v6311 v3111"), 3, 5 * 36 + 5 * 6 + 5);
+        dumbIs(Desk.houseOf("v3119 v3119 v3119 v3119 v3119 v3119"), 1, 5);
         HerOrders x = Desk.houseWith("v6319 v6319", 0, 0, 0, 0, 0);
         dumbIs(x, HerOrders.NONE, 0);
         x.say(1, 0);
@@ -362,6 +363,7 @@ public final class EdgesOfOrdersTest {
         longestIs(Desk.houseOf("v3211 v6311"), 0, 5);
         longestIs(Desk.houseOf("v3211 v6312"), 0, 5, 0);
         longestIs(Desk.houseOf(SIX), 0, 0, 0, 0);
+        longestIs(Desk.houseOf("v0101 v0201 v0421 v0821 v1641 v3241"), 0, 1);
         HerOrders x = Desk.houseWith("v6319 v6319", 0, 0, 0, 0);
         longestIs(x, 0, 0, 0, 0);
         for (int n = 3; n >= 0; n--) {
@@ -376,6 +378,8 @@ public final class EdgesOfOrdersTest {
     private static void longestIsTheFirst() {
         Desk.sentence("the first such row");
         longestIs(Desk.houseOf("v0319 v3219 v1659"), 0, 5, 0, 5);
+        longestIs(Desk.houseOf("v0619 n0019"), 1);
+        longestIs(Desk.houseOf("v0619 v5659 n1611"), 1, 4, 1);
         longestIs(Desk.houseOf("v0111 v2231"), 0);
         longestIs(Desk.houseOf("v0111 v2231 v0831"), 1, 3);
         longestIs(Desk.houseOf("v0411 p0012"), 2, 2);
